@@ -407,7 +407,7 @@ public final class ShapeReader {
 
     /** What Double.doubleToLongBits tells of a number of 0 or from 0.1 up to 2 to the 63rd. */
     private static long bitsOfPositive(double number) {
-        if (!(number > 0)) {
+        if (!(number > 0.0)) {
             return 0;
         }
         double scaled = number;
@@ -548,7 +548,8 @@ public final class ShapeReader {
         private int takeLetters(int from, int most) {
             letters = 0;
             for (int k = 0; k <= most; k++) {
-                int letter = signAt(from + k) - 'a' + 1;
+                int at = from + k;
+                int letter = at >= 0 && at < end && at < tape.length ? tape[at] - 'a' + 1 : 0;
                 if (letter < 1 || letter > 26) {
                     return k;
                 }
@@ -690,11 +691,8 @@ public final class ShapeReader {
 
         /** Without a point -0 is the whole number 0; with one the sign stands in front of all. */
         private long realBits() {
-            if (!dotted) {
-                return bitsOfWhole(whole());
-            }
             long bits = bitsOfPositive((double) digits + (double) tenths / 10.0);
-            return minus ? bits | Long.MIN_VALUE : bits;
+            return minus && (dotted || digits != 0) ? bits | Long.MIN_VALUE : bits;
         }
     }
 
@@ -1349,13 +1347,13 @@ public final class ShapeReader {
         private void link(int row, int parent) {
             int last = lasts[parent];
             int before = NONE;
-            if (last != NONE && placeOf(last) < placeOf(row)) {
+            if (isRow(last) && places[last] < places[row]) {
                 before = last;
             } else {
                 int child = firsts[parent];
-                for (int k = 0; k < size && child != NONE && placeOf(child) < placeOf(row); k++) {
+                for (int k = 0; k < size && isRow(child) && places[child] < places[row]; k++) {
                     before = child;
-                    child = nextOf(child);
+                    child = nexts[child];
                 }
             }
             if (isRow(before)) {
