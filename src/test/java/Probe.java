@@ -4,6 +4,8 @@ import java.util.NoSuchElementException;
 final class Probe {
     static int wrong = 0;
     static int asked = 0;
+    /** The name of the case that is run, in front of what is told of it. */
+    static String currentCase = "";
 
     final ShapeReader reader = new ShapeReader();
 
@@ -11,7 +13,7 @@ final class Probe {
         asked++;
         if (want != got) {
             wrong++;
-            System.out.println(what + " answered " + got + ", due is " + want);
+            System.out.println(currentCase + what + " answered " + got + ", due is " + want);
         }
     }
 
@@ -122,6 +124,24 @@ final class Probe {
         due("failure " + kind + " step behind", -1, reader.failureStep(path.length));
     }
 
+    /** A message of these bytes: they are put over those that the text has, which must be as many at least. */
+    void put(int message, int plan, String text, int... bytes) {
+        int size = write(message, plan, text);
+        due("write(" + text + ") has bytes enough", 1, size >= bytes.length ? 1 : 0);
+        for (int i = 0; i < bytes.length && i < size; i++) {
+            reader.spoil(message, i, reader.byteAt(message, i) ^ bytes[i]);
+        }
+        reader.cut(message, bytes.length);
+    }
+
+    void keptDue(int... pairs) {
+        due("pairs kept", pairs.length, reader.kept(ShapeReader.NONE));
+        for (int i = 0; i < pairs.length; i++) {
+            due("pair " + i, pairs[i], reader.kept(i));
+        }
+        due("none behind", ShapeReader.NONE, reader.kept(pairs.length));
+    }
+
     interface Call {
         long answer();
     }
@@ -131,7 +151,7 @@ final class Probe {
         try {
             long got = call.answer();
             wrong++;
-            System.out.println(what + " answered " + got + ", due is a NoSuchElementException");
+            System.out.println(currentCase + what + " answered " + got + ", due is a NoSuchElementException");
         } catch (NoSuchElementException e) {
             return;
         }

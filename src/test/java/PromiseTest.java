@@ -599,47 +599,38 @@ public final class PromiseTest {
         p.failureDue(kind, at, path);
     }
 
-    /** Writes these bytes over those of a message that is long enough. */
-    private static void bytes(Probe p, int message, int plan, String text, int... bytes) {
-        p.write(message, plan, text);
-        for (int i = 0; i < bytes.length; i++) {
-            p.reader.spoil(message, i, p.reader.byteAt(message, i) ^ bytes[i]);
-        }
-        p.reader.cut(message, bytes.length);
-    }
-
     private static void numbers() {
         Probe p = with("plan;record a x long,t text;plan;record a x int,t text;", 2);
         String text = "{x 5,t \"abcdefghijkl\"}";
         int m = 128;
-        bytes(p, 0, 0, text, 255, 255, 255, 255, 255, 255, 255, 255, 255, 1, 0);
+        p.put(0, 0, text, 255, 255, 255, 255, 255, 255, 255, 255, 255, 1, 0);
         Probe.due("the least long", 3, p.reader.read(0, 0));
         Probe.due("its value", Long.MIN_VALUE, p.reader.value(1));
-        bytes(p, 0, 0, text, 254, 255, 255, 255, 255, 255, 255, 255, 255, 1, 0);
+        p.put(0, 0, text, 254, 255, 255, 255, 255, 255, 255, 255, 255, 1, 0);
         Probe.due("the greatest long", 3, p.reader.read(0, 0));
         Probe.due("its value", Long.MAX_VALUE, p.reader.value(1));
-        bytes(p, 0, 0, text, m, m, m, m, m, m, m, m, m, 0, m, 0);
+        p.put(0, 0, text, m, m, m, m, m, m, m, m, m, 0, m, 0);
         Probe.due("parts of 0", 3, p.reader.read(0, 0));
         Probe.due("its value", 0, p.reader.value(1));
-        bytes(p, 0, 0, text, m, m, m, m, m, m, m, m, m, 2, 0);
+        p.put(0, 0, text, m, m, m, m, m, m, m, m, m, 2, 0);
         Probe.due("a tenth byte above 1", -3, p.reader.read(0, 0));
         p.failureDue(12, 0, 0);
-        bytes(p, 0, 0, text, m, m, m, m, m, m, m, m, m, m, 0, 0);
+        p.put(0, 0, text, m, m, m, m, m, m, m, m, m, m, 0, 0);
         Probe.due("an eleventh byte", -3, p.reader.read(0, 0));
         p.failureDue(12, 0, 0);
-        bytes(p, 0, 0, text, m, m, m, m, m, m, m, m, m);
+        p.put(0, 0, text, m, m, m, m, m, m, m, m, m);
         Probe.due("nine bytes", -3, p.reader.read(0, 0));
         p.failureDue(11, 9, 0);
-        bytes(p, 0, 1, text, 254, 255, 255, 255, 15, 0);
+        p.put(0, 1, text, 254, 255, 255, 255, 15, 0);
         Probe.due("the greatest int", 3, p.reader.read(0, 1));
         Probe.due("its value", Integer.MAX_VALUE, p.reader.value(1));
-        bytes(p, 0, 1, text, m, m, m, m, 16, 0);
+        p.put(0, 1, text, m, m, m, m, 16, 0);
         Probe.due("no int", -3, p.reader.read(0, 1));
         p.failureDue(12, 0, 0);
-        bytes(p, 0, 1, text, 4, 24, 'a', 'a');
+        p.put(0, 1, text, 4, 24, 'a', 'a');
         Probe.due("letters end too soon", -3, p.reader.read(0, 1));
         p.failureDue(11, 4, 1);
-        bytes(p, 0, 1, text, 4, 24, 'a', 'A');
+        p.put(0, 1, text, 4, 24, 'a', 'A');
         Probe.due("a letter that is none is met ahead of the end", -3, p.reader.read(0, 1));
         p.failureDue(12, 1, 1);
     }
@@ -694,19 +685,19 @@ public final class PromiseTest {
         String many = "none,".repeat(99) + "none";
         p.writeDue(1, 3, "{k [],q [[" + many + "]]}", 4);
         Probe.due("100 items", 104, p.reader.read(1, 3));
-        bytes(p, 1, 3, "{k [" + "{},".repeat(20) + "{}],q [[],[],[]]}", 4, 0x90, 3, 0x90, 3, 0);
+        p.put(1, 3, "{k [" + "{},".repeat(20) + "{}],q [[],[],[]]}", 4, 0x90, 3, 0x90, 3, 0);
         Probe.due("a 401st node", -3, p.reader.read(1, 3));
         p.failureDue(15, NONE);
-        bytes(p, 1, 3, "{k [" + "{},".repeat(20) + "{}],q [[],[],[]]}", 4, 0x90, 3, 0x84, 3, 0);
+        p.put(1, 3, "{k [" + "{},".repeat(20) + "{}],q [[],[],[]]}", 4, 0x90, 3, 0x84, 3, 0);
         Probe.due("399 nodes", 399, p.reader.read(1, 3));
-        bytes(p, 1, 3, "{k [" + "{},".repeat(20) + "{}],q [[],[],[]]}", 4, 0x90, 3, 0x86, 3, 0);
+        p.put(1, 3, "{k [" + "{},".repeat(20) + "{}],q [[],[],[]]}", 4, 0x90, 3, 0x86, 3, 0);
         Probe.due("400 nodes", 400, p.reader.read(1, 3));
         Probe.due("what else tells is the 401st", -3, p.reader.read(1, 4));
         p.failureDue(15, NONE);
-        bytes(p, 1, 3, "{k [" + "{},".repeat(20) + "{}],q [[],[],[]]}", 4, 0x90, 3, 0x90, 3, 0, 7);
+        p.put(1, 3, "{k [" + "{},".repeat(20) + "{}],q [[],[],[]]}", 4, 0x90, 3, 0x90, 3, 0, 7);
         Probe.due("the 401st node is met ahead of what is left over", -3, p.reader.read(1, 3));
         p.failureDue(15, NONE);
-        bytes(p, 1, 3, "{k [" + "{},".repeat(20) + "{}],q [[],[],[]]}", 4, 0x90, 3, 0x86, 3, 0, 7);
+        p.put(1, 3, "{k [" + "{},".repeat(20) + "{}],q [[],[],[]]}", 4, 0x90, 3, 0x86, 3, 0, 7);
         Probe.due("bytes are left over", -3, p.reader.read(1, 3));
         p.failureDue(14, 6);
     }
@@ -916,40 +907,32 @@ public final class PromiseTest {
         p.reader.read(0, 0);
         p.reader.read(0, 5);
         p.reader.convert(1, 4, 3);
-        keptDue(p, 14, 25, 20);
+        p.keptDue(14, 25, 20);
         p.reader.read(0, 0);
-        keptDue(p, 20, 14, 25);
+        p.keptDue(20, 14, 25);
         p.reader.read(1, 1);
-        keptDue(p, 11, 20, 14, 25);
+        p.keptDue(11, 20, 14, 25);
         p.reader.read(0, 3);
-        keptDue(p, 23, 11, 20, 14);
+        p.keptDue(23, 11, 20, 14);
         p.reader.cut(0, 0);
         p.reader.read(0, 5);
-        keptDue(p, 25, 23, 11, 20);
+        p.keptDue(25, 23, 11, 20);
         Probe.due("convert", -3, p.reader.convert(0, 2, 0));
-        keptDue(p, 22, 25, 23, 11);
+        p.keptDue(22, 25, 23, 11);
         p.reader.read(0, 6);
         p.reader.read(2, 0);
         p.reader.alike(1, 3, 0);
         p.reader.matches(0, 1);
-        keptDue(p, 22, 25, 23, 11);
+        p.keptDue(22, 25, 23, 11);
         p.reader.read(0, 2);
-        keptDue(p, 22, 25, 23, 11);
+        p.keptDue(22, 25, 23, 11);
         Probe.due("found", 2, p.reader.count(3));
         Probe.due("not found", 7, p.reader.count(4));
         Probe.due("others", NONE, p.reader.kept(-2));
         p.plansFault("plan;@", 1);
-        keptDue(p, 22, 25, 23, 11);
+        p.keptDue(22, 25, 23, 11);
         p.plansDue("plan;record a x int;", 1);
-        keptDue(p);
-    }
-
-    private static void keptDue(Probe p, int... pairs) {
-        Probe.due("pairs kept", pairs.length, p.reader.kept(NONE));
-        for (int i = 0; i < pairs.length; i++) {
-            Probe.due("pair " + i, pairs[i], p.reader.kept(i));
-        }
-        Probe.due("none behind", NONE, p.reader.kept(pairs.length));
+        p.keptDue();
     }
 
     private static void count() {
