@@ -179,6 +179,14 @@ public final class Promise03LimitsTest extends Edge {
         fault("plan;record a x list list list list @yes;", 1);
     }
 
+    static void behindTooManyTypesAByteThatBeginsNoTokenIsAFormFault() {
+        String[] wrong = {"%", "abcdefghi", "\"a", "-", "1234567890123456789", "1.25"};
+        for (String token : wrong) {
+            fault("plan;record a x list list list list @" + token + ";", 1);
+            fault("plan;record a x either int or text or none or flag or @" + token + ";", 1);
+        }
+    }
+
     static void aRecordsFieldsAreNotWithinTheTypeThatAsksForIt() {
         taken("plan;record a x list list list b;record b y list list list c;record c z list list list int;");
     }

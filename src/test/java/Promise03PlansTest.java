@@ -171,6 +171,49 @@ public final class Promise03PlansTest extends Edge {
         due("matches(0, 1)", NONE, p.reader.matches(0, 1));
     }
 
+    static void recordsAndFieldsOfTheOldPlansAreGone() {
+        Probe p = with("plan;record a x int;record b y int,z int;plan;record c u int,v int;record d w int;");
+        p.plansDue("plan;record a x int;", 1);
+        for (int what = 0; what <= 5; what++) {
+            due("a field of an old record", NONE, p.reader.field(0, 1, 0, what));
+            due("a field of an old plan", NONE, p.reader.field(1, 0, 0, what));
+        }
+        due("an old record", NONE, p.reader.record(0, 1, 1));
+        due("a record of an old plan", NONE, p.reader.record(1, 0, 0));
+    }
+
+    static void whatFieldsWereAndWhatElseToldIsGone() {
+        Probe p = with("plan;record a x int was q else 7,y text was r else \"ab\";");
+        p.plansDue("plan;record a x int,y text;plan;record a x int,q int,r int;", 2);
+        for (int field = 0; field < 2; field++) {
+            due("else", 0, p.reader.field(0, 0, field, 1));
+            due("was", 0, p.reader.field(0, 0, field, 2));
+        }
+        p.writeFault(0, 0, "{@}", 6);
+        due("matches", 2, p.reader.matches(1, 0));
+        p.missDue(1, 0, 0, 1, 1);
+    }
+
+    static void whatAFaultyTextToldIsGone() {
+        Probe p = new Probe();
+        p.plansFault("plan;record a x int was q else 7,y list list b was r else [];@%", 1);
+        p.plansDue("plan;record a x int,y int;", 1);
+        for (int field = 0; field < 2; field++) {
+            due("sort", 2, p.reader.field(0, 0, field, 0));
+            due("else", 0, p.reader.field(0, 0, field, 1));
+            due("was", 0, p.reader.field(0, 0, field, 2));
+        }
+    }
+
+    static void recordsThatTheOldPlansAskedForAreGone() {
+        Probe p = with("plan;record a x b,y list b,z either int or b;record b y int;");
+        p.plansDue("plan;record a x int,y list int,z either int or text;", 1);
+        for (int field = 0; field < 3; field++) {
+            due("record of field " + field, NONE, p.reader.field(0, 0, field, 5));
+        }
+        due("branches", 2, p.reader.field(0, 0, 2, 4));
+    }
+
     static void whatMatchedOnceIsLookedAtAnew() {
         Probe p = with("plan;record a x int;plan;record a x int;");
         due("matches", 0, p.reader.matches(0, 1));

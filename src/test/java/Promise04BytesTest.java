@@ -108,6 +108,13 @@ public final class Promise04BytesTest extends Edge {
         bytes("real", "0.5", 0x3f, 0xe0, 0, 0, 0, 0, 0, 0);
     }
 
+    static void realsWithoutAPoint() {
+        bytes("real", "-1", 0xbf, 0xf0, 0, 0, 0, 0, 0, 0);
+        bytes("real", "-2147483649", 0xc1, 0xe0, 0, 0, 0, 0x20, 0, 0);
+        bytes("real", "2", 0x40, 0, 0, 0, 0, 0, 0, 0);
+        bytes("real else -2", "-2", 0xc0, 0, 0, 0, 0, 0, 0, 0);
+    }
+
     static void realsAreTheWholePartAndTheTenthsAdded() {
         String[] texts = {"0.1", "0.9", "-0.3", "1.1", "2.7", "99999999999999999.9", "999999999999999999.9", "-999999999999999999.9",
             "999999999999999999", "9007199254740991.9", "9007199254740992.5", "9007199254740993", "4503599627370495.5"};

@@ -71,6 +71,16 @@ public final class Promise05RecordTest extends Edge {
         }
     }
 
+    /** Plan 0 has six records in front of plan 1's, which has six of its own behind it. */
+    static void noRecordOfTheNextPlanOrOfThePlanInFront() {
+        String six = "plan;record a x int;record b x int;record c x int;record d x int;record e x int;record f x int;";
+        Probe p = with(six.repeat(2));
+        for (int record : outsideButNone(5)) {
+            due("record(0, " + record + ", 0)", NONE, p.reader.record(0, record, 0));
+            due("record(1, " + record + ", 0)", NONE, p.reader.record(1, record, 0));
+        }
+    }
+
     static void nothingChanges() {
         Watch.unchanged("record(0, 0, 0)", Watch::nodes, r -> r.record(0, 0, 0), 3);
         Watch.unchanged("record(9, 9, 9)", Watch::nodes, r -> r.record(9, 9, 9), NONE);

@@ -141,6 +141,25 @@ public final class Promise06FieldTest extends Edge {
         }
     }
 
+    /** Plan 0 has six records in front of plan 1's, which has six of its own behind it. */
+    static void noFieldOfTheNextPlanOrOfThePlanInFront() {
+        String six = "plan;record a x int;record b x int;record c x int;record d x int;record e x int;record f x int;";
+        Probe p = with(six.repeat(2));
+        for (int record : outside(0, 5)) {
+            due("field(0, " + record + ", 0, 0)", NONE, p.reader.field(0, record, 0, 0));
+            due("field(1, " + record + ", 0, 0)", NONE, p.reader.field(1, record, 0, 0));
+        }
+    }
+
+    static void noFieldOfTheNextRecordOrOfTheRecordInFront() {
+        String eight = " a int,b int,c int,d int,e int,f int,g int,h int;";
+        Probe p = with("plan;record a" + eight + "record b" + eight);
+        for (int field : outside(0, 7)) {
+            due("field(0, 0, " + field + ", 0)", NONE, p.reader.field(0, 0, field, 0));
+            due("field(0, 1, " + field + ", 0)", NONE, p.reader.field(0, 1, field, 0));
+        }
+    }
+
     static void nothingChanges() {
         Watch.unchanged("field(0, 0, 0, 0)", Watch::nodes, r -> r.field(0, 0, 0, 0), 2);
         Watch.unchanged("field(0, 0, 9, 0)", Watch::nodes, r -> r.field(0, 0, 9, 0), NONE);

@@ -230,6 +230,40 @@ public final class Promise11MatchesTest extends Edge {
         due("24 branches that do not match", 1, with(writer + ";" + reader + ";").reader.matches(0, 1));
     }
 
+    static void onePairDoesNotReachAnother() {
+        Probe p = with("plan;record a x b;record b y int;plan;record a x b;record b y int;plan;record a x c;record c y int;");
+        due("matches(0, 1)", 0, p.reader.matches(0, 1));
+        due("matches(0, 2)", 2, p.reader.matches(0, 2));
+        due("matches(2, 0)", 2, p.reader.matches(2, 0));
+        due("matches(1, 0)", 0, p.reader.matches(1, 0));
+        due("matches(0, 2) again", 2, p.reader.matches(0, 2));
+    }
+
+    /** Each of six records asked for where each other sort stands. */
+    static void theFirstToTheSixthRecordAndOthers() {
+        String six = "record b y int;record c y int;record d y int;record e y int;record f y int;";
+        for (int k = 0; k < 6; k++) {
+            for (String plain : PLAIN) {
+                records("record a x " + letter(k) + ";" + six, "record a x " + plain + ";" + six, 2);
+                records("record a x " + plain + ";" + six, "record a x " + letter(k) + ";" + six, 2);
+            }
+            records("record a x " + letter(k) + ";" + six, "record a x " + letter(k) + ";" + six, 0);
+            records("record a x " + letter(k) + ";" + six, "record a x " + letter((k + 1) % 6) + ";" + six, 2);
+            records("record a x list " + letter(k) + ";" + six, "record a x list list int;" + six, 2);
+        }
+    }
+
+    /** A chain of six records: what is against the last one is against all that ask for it. */
+    static void sixRecordsInAChain() {
+        String chain = "record a x b;record b x c;record c x d;record d x e;record e x f;record f x ";
+        records(chain + "int;", chain + "long;", 0);
+        records(chain + "long;", chain + "int;", 2);
+        records(chain + "a;", chain + "a;", 0);
+        String back = "record a x f;record f x e;record e x d;record d x c;record c x b;record b x ";
+        records(back + "long;", back + "int;", 2);
+        records(chain + "either int or text;", chain + "int;", 1);
+    }
+
     static void nothingChanges() {
         Watch.unchanged("matches(0, 1)", Watch::nodes, r -> r.matches(0, 1), 0);
         Watch.unchanged("matches(0, 2)", Watch::failed, r -> r.matches(0, 2), 2);

@@ -361,6 +361,37 @@ public final class Promise16KindsTest extends Edge {
         }
     }
 
+    /** Each item is a record without bytes, in whose field there is another one, in whose field there is none. */
+    private static Probe withoutBytes(int deep) {
+        Probe p = with("plan;record n k list d else [],next either none or n else none;record d y e;record e z none;"
+                + "plan;record n w int else 0;");
+        p.writeDue(0, 0, "{next ".repeat(deep) + "{}" + "}".repeat(deep), 2 * deep + 2);
+        p.reader.spoil(0, 2 * deep, 4);
+        return p;
+    }
+
+    static void recordsWithoutBytesWithinThirtyOthers() {
+        Probe p = withoutBytes(26);
+        due("read", 26 * 2 + 3 + 2 * 3, p.reader.read(0, 0));
+        due("skipped", 2, p.reader.read(0, 1));
+    }
+
+    static void recordsWithoutBytesWithinThirtyOneOthers() {
+        int[][] last = {{0, 100, 0, 0}, {0, 100, 0}, {0, 100}, {0}};
+        for (int deep = 27; deep <= 30; deep++) {
+            Probe p = withoutBytes(deep);
+            int[] path = new int[0];
+            for (int k = 0; k < deep; k++) {
+                path = joint(path, 1, 201);
+            }
+            int at = deep == 30 ? 2 * deep : 2 * deep + 1;
+            for (int plan = 0; plan < 2; plan++) {
+                due("read by " + plan, -3, p.reader.read(0, plan));
+                p.failureDue(16, at, joint(path, last[deep - 27]));
+            }
+        }
+    }
+
     static void aFourHundredAndFirstNodeHasNoByteAndNoPath() {
         Probe p = with("plan;record a x list list none;");
         p.put(0, 0, "{x [[],[],[],[],[]]}", 4, 0x90, 3, 0x90, 3);

@@ -145,6 +145,20 @@ public final class Promise18NodeTest extends Edge {
         none(p, 4, 0);
     }
 
+    static void whatWasFilledInOnceIsNotFilledInTheNextTime() {
+        Probe p = with("plan;record a x int;plan;record a x int,y int;plan;record a y int else 5,x int else 6;");
+        p.writeDue(0, 0, "{x 1}", 1);
+        p.writeDue(1, 1, "{x 1,y 2}", 2);
+        for (int round = 0; round < 2; round++) {
+            due("read", 3, p.reader.read(0, 2));
+            p.nodeDue(1, 2, 0, 0, 0, 1, 5);
+            p.nodeDue(2, 2, 0, 1, 0, 0, 1);
+            due("read", 3, p.reader.read(1, 2));
+            p.nodeDue(1, 2, 0, 0, 0, 0, 2);
+            p.nodeDue(2, 2, 0, 1, 0, 0, 1);
+        }
+    }
+
     static void nothingChanges() {
         Watch.unchanged("node(0, 0)", Watch::nodes, r -> r.node(0, 0), 7);
         Watch.unchanged("node(4, 0)", Watch::nodes, r -> r.node(4, 0), Watch.THROWS);

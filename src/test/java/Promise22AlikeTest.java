@@ -152,6 +152,7 @@ public final class Promise22AlikeTest extends Edge {
         due("with itself", 1, p.reader.alike(0, 0, 0));
         due("the other way round", 0, p.reader.alike(0, 1, 0));
         due("with 401", -3, p.reader.alike(0, 2, 0));
+        due("401 with it", -3, p.reader.alike(2, 0, 0));
         due("nodes stay", 400, p.reader.count(2));
     }
 }
