@@ -115,6 +115,32 @@ public final class Promise04BytesTest extends Edge {
         bytes("real else -2", "-2", 0xc0, 0, 0, 0, 0, 0, 0, 0);
     }
 
+    static void aRealWithoutAPointBehindOneWithIt() {
+        Probe p = with("plan;record a x real,y real else 3;");
+        p.writeDue(0, 0, "{x 1.5,y 2}", 16);
+        due("x", 0xf8, p.reader.byteAt(0, 1));
+        due("y", 0x40, p.reader.byteAt(0, 8));
+        due("y", 0, p.reader.byteAt(0, 9));
+        p.writeDue(0, 0, "{x -1.5,y 2}", 16);
+        due("y", 0x40, p.reader.byteAt(0, 8));
+        p.plansDue("plan;record a x real else -1.5,y real else 2,z int else 3;", 1);
+        p.writeDue(0, 0, "{}", 17);
+        due("y", 0x40, p.reader.byteAt(0, 8));
+        due("y", 0, p.reader.byteAt(0, 9));
+        due("z", 6, p.reader.byteAt(0, 16));
+    }
+
+    static void fieldsOfOldPlansHaveNoBytes() {
+        Probe p = with("plan;record a x int else 1,y int else 2,z int else 3;record b x int else 1;");
+        p.writeDue(0, 0, "{}", 3);
+        p.plansDue("plan;record a x int else 1,y list int else [];", 1);
+        p.writeDue(0, 0, "{}", 2);
+        p.bytesDue(0, 2, 0);
+        p.plansDue("plan;record a x int else 1,y list b else [];record b z flag;", 1);
+        p.writeDue(0, 0, "{y [{z yes}]}", 3);
+        p.bytesDue(0, 2, 2, 1);
+    }
+
     static void realsAreTheWholePartAndTheTenthsAdded() {
         String[] texts = {"0.1", "0.9", "-0.3", "1.1", "2.7", "99999999999999999.9", "999999999999999999.9", "-999999999999999999.9",
             "999999999999999999", "9007199254740991.9", "9007199254740992.5", "9007199254740993", "4503599627370495.5"};

@@ -239,6 +239,19 @@ public final class Promise04FaultsTest extends Edge {
         p.writeFault(0, 0, ring.repeat(30) + "{@w 1}" + "}".repeat(30), 3);
     }
 
+    static void behindAFaultTheRestMayBeWell() {
+        fault("{x 1,y [@,z \"\"}", 1);
+        fault("{z \"\",x 1,y [@}", 1);
+        fault("{z \"\",x 1,y [1,@}", 1);
+        fault("{z \"\",y [],x @}", 1);
+        fault("{z \"\",x @,y []}", 1);
+        fault("{x 1,z {p @},y []}", 1);
+        fault("{x 1,z {@},y []}", 6);
+        fault("{x 1,z {q 1@},y []}", 6);
+        fault("{x @none,z \"\"}", 2);
+        fault("{x 1,@w 1,z \"\"}", 3);
+    }
+
     static void theFirstFromTheLeft() {
         fault("{x @yes,x 1,w 1", 2);
         fault("{x 1,@w 1,x 1", 3);

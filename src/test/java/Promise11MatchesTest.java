@@ -264,6 +264,25 @@ public final class Promise11MatchesTest extends Edge {
         records(chain + "either int or text;", chain + "int;", 1);
     }
 
+    /** One's sixth record stands beside the next one's first. */
+    static void theSixthRecordsOfThreePlans() {
+        String six = "plan;record a x f;record b y int;record c y int;record d y int;record e y int;record f y ";
+        Probe p = with(six + "text;" + six + "int;" + six + "int;");
+        due("matches(1, 2)", 0, p.reader.matches(1, 2));
+        due("matches(2, 1)", 0, p.reader.matches(2, 1));
+        due("matches(0, 1)", 2, p.reader.matches(0, 1));
+        due("matches(2, 0)", 2, p.reader.matches(2, 0));
+        due("matches(0, 0)", 0, p.reader.matches(0, 0));
+    }
+
+    static void formerNamesOfEachLetter() {
+        for (int k = 0; k < 26; k++) {
+            String other = letter((k + 1) % 26);
+            records("record r " + letter(k) + " int;", "record r " + other + " int was " + letter(k) + ";", 0);
+            records("record r " + letter(k) + " text;", "record r " + other + " int was " + letter(k) + ";", 2);
+        }
+    }
+
     static void nothingChanges() {
         Watch.unchanged("matches(0, 1)", Watch::nodes, r -> r.matches(0, 1), 0);
         Watch.unchanged("matches(0, 2)", Watch::failed, r -> r.matches(0, 2), 2);

@@ -392,6 +392,47 @@ public final class Promise16KindsTest extends Edge {
         }
     }
 
+    /** Plan 0 tells the bytes; by plan 1 the first item's f is as many a node as one likes, and e is the next one. */
+    private static Probe manyNodes(int fOfTheFirstItem, int... flags) {
+        Probe p = with("plan;record a x list none,y list none,k list b;record b f flag;"
+                + "plan;record a x list none,y list none,k list b;record b e int else 1,f flag;");
+        String carrier = "{x [" + joined("none", 64) + "],y [" + joined("none", 64) + "],k [" + joined("{f yes}", 4) + "]}";
+        int z = 2 * (fOfTheFirstItem - 206);
+        p.put(0, 0, carrier, joint(new int[] {0x90, 3, z & 127 | 128, z >> 7, 4}, flags));
+        return p;
+    }
+
+    static void whatElseTellsIsTheFourHundredthNodeOfOneItem() {
+        Probe p = manyNodes(396, 1, 0);
+        due("the last item's e is the 400th", 400, p.reader.read(0, 1));
+        p.nodeDue(398, 2, 397, 0, 0, 1, 1);
+        p.nodeDue(399, 1, 397, 1, 0, 0, 0);
+    }
+
+    static void whatElseTellsIsTheFourHundredAndFirstNode() {
+        Probe p = manyNodes(397, 1, 0);
+        due("read", -3, p.reader.read(0, 1));
+        p.failureDue(15, NONE);
+        due("without what else tells", 399, p.reader.read(0, 0));
+    }
+
+    static void whatElseTellsComesBehindWhatIsReadOfItsRecord() {
+        Probe p = manyNodes(400, 2, 1);
+        due("its own record's byte is met ahead of it", -3, p.reader.read(0, 1));
+        p.failureDue(12, 5, 2, 100, 0);
+        Probe q = manyNodes(400, 1, 2);
+        due("the next record's byte is met behind it", -3, q.reader.read(0, 1));
+        q.failureDue(15, NONE);
+    }
+
+    static void aFourHundredAndFirstNodeIsMetAheadOfBytesLeftOver() {
+        Probe p = manyNodes(397, 1, 0, 0);
+        due("read", -3, p.reader.read(0, 1));
+        p.failureDue(15, NONE);
+        due("read", -3, p.reader.read(0, 0));
+        p.failureDue(14, 7);
+    }
+
     static void aFourHundredAndFirstNodeHasNoByteAndNoPath() {
         Probe p = with("plan;record a x list list none;");
         p.put(0, 0, "{x [[],[],[],[],[]]}", 4, 0x90, 3, 0x90, 3);
