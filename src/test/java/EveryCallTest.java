@@ -32,6 +32,25 @@ public final class EveryCallTest extends Edge {
         everyCall(Watch::fullTape);
     }
 
+    /** What these answer is free, but none of them may throw what it may not. */
+    static void behindTheFiveHundredAndTwelfthCall() {
+        ShapeReader r = Watch.failed();
+        int calls = 0;
+        for (int round = 0; round < 40; round++) {
+            for (Method m : ShapeReader.class.getDeclaredMethods()) {
+                if (Modifier.isPublic(m.getModifiers())) {
+                    Object[] arguments = new Object[m.getParameterCount()];
+                    for (int k = 0; k < arguments.length; k++) {
+                        arguments[k] = ARGUMENTS[(round * 7 + k * 3 + round / 10) % ARGUMENTS.length];
+                    }
+                    call(r, m, arguments);
+                    calls++;
+                }
+            }
+        }
+        due("calls beyond 512", 1, calls > 600 ? 1 : 0);
+    }
+
     private static void everyCall(Supplier<ShapeReader> make) {
         for (Method m : ShapeReader.class.getDeclaredMethods()) {
             if (Modifier.isPublic(m.getModifiers())) {

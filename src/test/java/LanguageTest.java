@@ -6,6 +6,7 @@ import java.nio.file.Files;
 import java.nio.file.Path;
 import java.util.Arrays;
 import java.util.List;
+import java.util.NoSuchElementException;
 import java.util.Set;
 import java.util.TreeSet;
 
@@ -17,6 +18,8 @@ public final class LanguageTest {
             "int kept(int)", "int letter(int,int)", "int matches(int,int)", "int message(int,int)", "int miss(int,int,int,int)",
             "int missStep(int,int,int,int)", "int node(int,int)", "int plans(int)", "int read(int,int)", "int readers(int,int)",
             "int record(int,int,int)", "int spoil(int,int,int)", "int write(int,int,int)", "long value(int)");
+
+    private static final Set<String> THROWING = Set.of("byteAt", "node", "value", "letter");
 
     public static void main(String[] args) throws Exception {
         face();
@@ -42,7 +45,17 @@ public final class LanguageTest {
         must("the face is " + seen, seen.equals(new TreeSet<>(FACE)));
         must("the class is public and final", Modifier.isPublic(c.getModifiers()) && Modifier.isFinal(c.getModifiers()));
         must("NONE is -1", c.getField("NONE").getInt(null) == -1);
+        must("NONE is a constant", c.getField("NONE").getModifiers() == (Modifier.PUBLIC | Modifier.STATIC | Modifier.FINAL)
+                && c.getField("NONE").getType() == int.class);
+        must("it has no package and nothing above it", c.getPackageName().isEmpty() && c.getSuperclass() == Object.class
+                && c.getInterfaces().length == 0);
         for (Method m : c.getDeclaredMethods()) {
+            if (Modifier.isPublic(m.getModifiers())) {
+                Class<?>[] thrown = m.getExceptionTypes();
+                boolean throwsOne = thrown.length == 1 && thrown[0] == NoSuchElementException.class;
+                must(m + " throws what the face tells", THROWING.contains(m.getName()) ? throwsOne : thrown.length == 0);
+                must(m + " is of the object", !Modifier.isStatic(m.getModifiers()) && !m.isVarArgs());
+            }
             boolean hidden = Modifier.isPrivate(m.getModifiers());
             must(m + " is private or of the face", m.isSynthetic() || hidden || FACE.contains(told(m)));
             must(m + " has a name of its own", !hidden || !names.contains(m.getName()));

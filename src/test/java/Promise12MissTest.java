@@ -119,6 +119,25 @@ public final class Promise12MissTest extends Edge {
         Probe p = pair("record a x either int or b;record b y text,z text;", "record a x either b or int;record b y int,z int;");
         count(p, 1);
         p.missDue(0, 1, 0, 4, 0, 201);
+        Probe q = pair("record a x either int or list text;", "record a x either int or list flag;");
+        count(q, 1);
+        q.missDue(0, 1, 0, 4, 0, 201);
+    }
+
+    static void aBranchThatDoesNotMatchIsNoLookAtItsPair() {
+        Probe p = pair("record a x either int or b,y b;record b v text;", "record a x either int or b,y b;record b v int;");
+        count(p, 2);
+        p.missDue(0, 1, 0, 4, 0, 201);
+        p.missDue(0, 1, 1, 2, 1, 0);
+    }
+
+    static void belowAnEitherOfTheReaderWithoutAMatchIsNothing() {
+        Probe p = pair("record a x b,y list text,z b;record b v text;",
+                "record a x either int or b,y either int or list flag,z b;record b v int;");
+        count(p, 3);
+        p.missDue(0, 1, 0, 3, 0);
+        p.missDue(0, 1, 1, 3, 1);
+        p.missDue(0, 1, 2, 2, 2, 0);
     }
 
     static void belowWhatIsChosen() {

@@ -298,6 +298,42 @@ public final class Promise16KindsTest extends Edge {
         failing(spoilt("list flag", "[]", 4, 1, 2), 12, 2, 0, 101);
     }
 
+    static void lettersAreMetOneByOne() {
+        failing(spoilt("flag", "yes", 1, 6, '!'), 12, 1, 1);
+        failing(spoilt("flag", "yes", 1, 6, 'a', '!'), 12, 1, 1);
+        failing(spoilt("flag", "yes", 1, 6, 'a', 'b'), 11, 4, 1);
+    }
+
+    /** Plans 1 and 2 have the writer's x twice, each of them in another order. */
+    private static Probe twice(int... bytes) {
+        Probe p = with("plan;record a x either int or text,y flag;plan;record a p int was x,q text was x;"
+                + "plan;record a q text was x,p int was x;");
+        p.put(0, 0, "{x \"abc\",y yes}", bytes);
+        return p;
+    }
+
+    static void whatTwoFieldsHaveIsGoneThroughForEachInOrder() {
+        Probe p = twice(2, 2, '!', 1);
+        due("first as an int", -3, p.reader.read(0, 1));
+        due("a branch that does not match", 13, p.reader.failure(0));
+        due("its byte", 0, p.reader.failure(2));
+        due("first as a text", -3, p.reader.read(0, 2));
+        p.failureDue(12, 1, 0, 201);
+    }
+
+    static void whatTwoFieldsHaveIsGoneThroughAheadOfTheNextField() {
+        Probe p = twice(0, 10, 2);
+        for (int plan = 1; plan <= 2; plan++) {
+            due("read by " + plan, -3, p.reader.read(0, plan));
+            due("a branch that does not match", 13, p.reader.failure(0));
+            due("its byte", 0, p.reader.failure(2));
+        }
+        Probe q = with("plan;record a x int,y flag;plan;record a p int was x,q long was x;");
+        q.put(0, 0, "{x 5,y yes}", 10, 2);
+        due("both are well", -3, q.reader.read(0, 1));
+        q.failureDue(12, 1, 1);
+    }
+
     static void whatIsSkippedFailsAheadOfWhatIsBehind() {
         Probe p = with("plan;record a x flag,y flag;plan;record a y flag;");
         p.put(0, 0, "{x yes,y yes}", 2, 2);
@@ -423,6 +459,22 @@ public final class Promise16KindsTest extends Edge {
         Probe q = manyNodes(400, 1, 2);
         due("the next record's byte is met behind it", -3, q.reader.read(0, 1));
         q.failureDue(15, NONE);
+    }
+
+    /** The record is the 399th node, its f the 400th: e or d would be the 401st if they came in front of f. */
+    static void whatElseTellsInFrontOfAFieldComesBehindItAllTheSame() {
+        Probe p = with("plan;record a x list none,y list none,k b;record b f flag;"
+                + "plan;record a x list none,y list none,k b;record b e int else 1,f flag,d int else 2;"
+                + "plan;record a x list none,y list none,k b;record b e int else 1,d int else 2,f flag;");
+        String carrier = "{x [" + joined("none", 64) + "],y [" + joined("none", 64) + "],k {f yes}}";
+        for (int plan = 1; plan <= 2; plan++) {
+            p.put(0, 0, carrier, 0x90, 3, 0x86, 3, 2);
+            due("a spoilt f is met ahead of what else tells", -3, p.reader.read(0, plan));
+            p.failureDue(12, 4, 2, 0);
+            p.put(0, 0, carrier, 0x90, 3, 0x86, 3, 1);
+            due("behind f comes what else tells", -3, p.reader.read(0, plan));
+            p.failureDue(15, NONE);
+        }
     }
 
     static void aFourHundredAndFirstNodeIsMetAheadOfBytesLeftOver() {

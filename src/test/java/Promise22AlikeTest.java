@@ -74,7 +74,31 @@ public final class Promise22AlikeTest extends Edge {
         p.writeDue(2, 0, "{x 3,y 6}", 2);
         due("numbers widened", 1, p.reader.alike(0, 1, 1));
         due("others", 0, p.reader.alike(2, 1, 1));
-        due("what is filled in is like what was told", 1, p.reader.alike(0, 1, 2));
+        due("z is filled in for both", 1, p.reader.alike(0, 1, 2));
+    }
+
+    static void whatIsFilledInIsLikeWhatWasTold() {
+        Probe p = with("plan;record a x int;plan;record a x int,y int else 5;");
+        p.writeDue(0, 0, "{x 3}", 1);
+        p.writeDue(1, 1, "{x 3,y 5}", 2);
+        p.writeDue(2, 1, "{x 3,y 6}", 2);
+        due("read", 3, p.reader.read(0, 1));
+        due("y is filled in", 1, p.reader.node(2, 4));
+        due("read", 3, p.reader.read(1, 1));
+        due("y was told", 0, p.reader.node(2, 4));
+        due("filled in and told", 1, p.reader.alike(0, 1, 1));
+        due("told and filled in", 1, p.reader.alike(1, 0, 1));
+        due("filled in and told otherwise", 0, p.reader.alike(0, 2, 1));
+    }
+
+    static void likeValuesThatOtherNodesHave() {
+        Probe p = with("plan;record a x list either int or b;record b k list either int or b;");
+        p.writeDue(0, 0, "{x [{k [1]},{k []}]}", 7);
+        p.writeDue(1, 0, "{x [{k [1,{k []}]}]}", 7);
+        p.writeDue(2, 0, "{x [{k [1]},{k []}]}", 7);
+        due("the inner one beside the other and in it", 0, p.reader.alike(0, 1, 0));
+        due("the inner one in the other and beside it", 0, p.reader.alike(1, 0, 0));
+        due("both beside it", 1, p.reader.alike(0, 2, 0));
     }
 
     static void whatTheReaderHasNotMayBeAnother() {
@@ -124,6 +148,13 @@ public final class Promise22AlikeTest extends Edge {
         Watch.unchanged("alike(2, 0, 1)", Watch::nodes, r -> r.alike(2, 0, 1), NONE);
         Watch.unchanged("alike(0, 2, 1)", Watch::failed, r -> r.alike(0, 2, 1), NONE);
         Watch.unchanged("alike(2, 2, 1)", Watch::failed, r -> r.alike(2, 2, 1), NONE);
+    }
+
+    static void oneThatIsRefusedGoesAheadOfOneThatCannotBeRead() {
+        Watch.unchanged("alike(3, 2, 1)", Watch::failed, r -> r.alike(3, 2, 1), NONE);
+        Watch.unchanged("alike(2, 3, 1)", Watch::failed, r -> r.alike(2, 3, 1), NONE);
+        Watch.unchanged("alike(0, 4, 2)", Watch::nodes, r -> r.alike(0, 4, 2), NONE);
+        Watch.unchanged("alike(3, 3, 3)", Watch::failed, r -> r.alike(3, 3, 3), NONE);
     }
 
     static void noSuchPlan() {
