@@ -108,6 +108,13 @@ public final class Promise04BytesTest extends Edge {
         bytes("real", "0.5", 0x3f, 0xe0, 0, 0, 0, 0, 0, 0);
     }
 
+    static void aMinusStandsInFrontOfAll() {
+        bytes("real", "-1.5", 0xbf, 0xf8, 0, 0, 0, 0, 0, 0);
+        bytes("real", "-0.5", 0xbf, 0xe0, 0, 0, 0, 0, 0, 0);
+        bytes("real", "-12.5", 0xc0, 0x29, 0, 0, 0, 0, 0, 0);
+        bytes("real else -3.5", "-3.5", 0xc0, 0x0c, 0, 0, 0, 0, 0, 0);
+    }
+
     static void realsWithoutAPoint() {
         bytes("real", "-1", 0xbf, 0xf0, 0, 0, 0, 0, 0, 0);
         bytes("real", "-2147483649", 0xc1, 0xe0, 0, 0, 0, 0x20, 0, 0);

@@ -97,6 +97,16 @@ public final class Promise04FaultsTest extends Edge {
         }
     }
 
+    static void theFirstTokenAloneTellsTheBranch() {
+        Probe p = with("plan;record a x either text or list int or b;record b y flag;");
+        p.writeFault(0, 0, "{x [@\"a\"]}", 2);
+        p.writeFault(0, 0, "{x [1,@[2]]}", 2);
+        p.writeFault(0, 0, "{x {y @1}}", 2);
+        p.writeFault(0, 0, "{x {@z yes}}", 3);
+        p.writeFault(0, 0, "{x {@}}", 6);
+        p.writeFault(0, 0, "{x [@}}", 1);
+    }
+
     static void theRootIsARecord() {
         String[] wrong = {"none", "yes", "1", "1.5", "\"a\"", "[]", "[", "[{x 1}]"};
         for (String value : wrong) {
@@ -135,6 +145,13 @@ public final class Promise04FaultsTest extends Edge {
         fault("{x 1,z \"\",@x yes}", 3);
         fault("{x 1,z {p yes,@p yes}}", 3);
         with(PLAN).writeDue(0, 0, "{x 1,z {p yes,q 2}}", 5);
+    }
+
+    static void aNameToldTwiceWhoseFieldHasAnElse() {
+        Probe p = with("plan;record a x int else 5,y b;record b z text else \"q\";");
+        p.writeFault(0, 0, "{x 1,@x 1}", 3);
+        p.writeFault(0, 0, "{x 1,y {z \"\",@z \"\"}}", 3);
+        p.writeFault(0, 0, "{x 1,y {},@x 2}", 3);
     }
 
     static void allEightFieldsAndThenOneMore() {
@@ -207,6 +224,16 @@ public final class Promise04FaultsTest extends Edge {
         Probe p = with("plan;record a x list int,y list int;");
         p.writeFault(0, 0, "{y [" + joined("1", 200) + "],x [" + joined("1", 200) + "]}@", 7);
         p.writeDue(0, 0, "{y [" + joined("1", 200) + "],x [" + joined("1", 196) + "]}", 400);
+    }
+
+    /** Values of two bytes each up to the tape's end: nothing but their bytes is too many. */
+    static void asManyValuesAsTheTapeTakes() {
+        Probe p = with("plan;record a x list int,y list int,z list int;");
+        String text = "{x[" + joined("1", 200) + "],y[" + joined("1", 200) + "],z[" + joined("1", 95);
+        due("its bytes on the tape", 1000, text.length() + 2);
+        p.writeFault(0, 0, text + "]}@", 7);
+        p.writeFault(0, 0, text + "]@]", 1);
+        p.writeFault(0, 0, text + "@}}", 1);
     }
 
     /** The root within none, a record within 30 others, its field within 31. */

@@ -69,6 +69,10 @@ public final class Promise12MissTest extends Edge {
         p.missDue(0, 1, 1, 1, 2);
     }
 
+    static void aFieldThatIsNotThereAndHasAnElse() {
+        count(pair("record a x int;", "record a y int else 1,z text was q else \"\",u list int was v else [];"), 0);
+    }
+
     static void plainTypesThatDoNotMatch() {
         Probe p = pair("record a p int,q long,r real,s text,t flag,u none;", "record a p flag,q int,r long,s none,t text,u int;");
         count(p, 6);
@@ -129,6 +133,11 @@ public final class Promise12MissTest extends Edge {
         count(p, 2);
         p.missDue(0, 1, 0, 4, 0, 201);
         p.missDue(0, 1, 1, 2, 1, 0);
+        Probe q = pair("record a x either int or b,y b;record b v text;", "record a x b,y b;record b v int;");
+        count(q, 3);
+        q.missDue(0, 1, 0, 4, 0, 200);
+        q.missDue(0, 1, 1, 4, 0, 201);
+        q.missDue(0, 1, 2, 2, 1, 0);
     }
 
     static void belowAnEitherOfTheReaderWithoutAMatchIsNothing() {

@@ -379,6 +379,25 @@ public final class Promise16KindsTest extends Edge {
         due("byte", 59, p.reader.failure(2));
     }
 
+    static void anEitherThatIsTooDeepIsToldAheadOfItsBranch() {
+        Probe p = with("plan;record n next either none or n else none;plan;record n z int else 0;");
+        p.writeDue(0, 0, "{next ".repeat(30) + "{}" + "}".repeat(30), 31);
+        int[] path = new int[0];
+        for (int k = 0; k < 30; k++) {
+            path = joint(path, 0, 201);
+        }
+        for (int bytes = 31; bytes >= 30; bytes--) {
+            p.reader.cut(0, bytes);
+            for (int plan = 0; plan < 2; plan++) {
+                due("read by " + plan, -3, p.reader.read(0, plan));
+                p.failureDue(16, 30, joint(path, 0));
+            }
+        }
+        p.reader.cut(0, 29);
+        due("read", -3, p.reader.read(0, 0));
+        due("kind", 11, p.reader.failure(0));
+    }
+
     /** A record within 28 others, its lists within 29 and 30, an item of these within 31. */
     static void listsAndRecordsCountAlike() {
         Probe p = with("plan;record n k list n else [],m list list flag else [];plan;record n z int else 0;");
