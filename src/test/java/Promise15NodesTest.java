@@ -185,6 +185,27 @@ public final class Promise15NodesTest extends Edge {
         due("the root's v", 1, p.reader.value(8));
     }
 
+    /** Thirty records in one another, each read like the root; halves, for an object is good for 512 calls. */
+    static void eachOfThirtyRecordsInOneAnotherIsReadLikeTheRoot() {
+        StringBuilder value = new StringBuilder("none");
+        for (int k = 29; k >= 0; k--) {
+            value.insert(0, "{v " + k + ",w \"" + letter(k % 26) + "\",next ").append('}');
+        }
+        for (int half = 0; half < 2; half++) {
+            Probe p = read("record n v int,w text,next either none or n;", value.toString(),
+                    "record n next either n or none,u flag else yes,v real,t text was w;", 121);
+            due("the last one's next", 0, p.reader.node(30, 0));
+            for (int k = 15 * half; k < 15 * half + 15; k++) {
+                int behind = 31 + 3 * (29 - k);
+                p.nodeDue(k, 7, k - 1, 0, 4, 0, 0);
+                p.nodeDue(behind, 1, k, 1, 0, 1, 1);
+                p.nodeDue(behind + 1, 4, k, 2, 0, 0, Double.doubleToLongBits((double) k));
+                p.nodeDue(behind + 2, 5, k, 3, 1, 0, 0);
+                due("its letter", k % 26 + 1, p.reader.letter(behind + 2, 0));
+            }
+        }
+    }
+
     static void aListOfTwoHundred() {
         Probe p = read("record a x list int;", "{x [" + joined("1", 200) + "]}", "record a x list long;", 202);
         due("how many it has", 200, p.reader.node(1, 3));
